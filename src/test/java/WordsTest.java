@@ -47,6 +47,10 @@ public final class WordsTest {
         x.cast(3);
         Due.due("sides(2) with c thrown", x.sides(2), -3);
         x.wipe();
+        x.cast(3);
+        x.cast(1);
+        Due.due("sides(2) with c thrown first", x.sides(2), -3);
+        x.wipe();
         x.cast(1);
         x.plan(0, 3);
         Due.feed(x, "c");
@@ -112,6 +116,12 @@ public final class WordsTest {
         StringBuilder sixty = new StringBuilder();
         for (int i = 0; i < 30; i++) sixty.append("a;");
         fault(2, sixty.toString(), 60);
+        WordRace x = new WordRace();
+        Due.tell(x, "abq");
+        Due.due("nothing is left of a faulty text", Due.tell(x, "2"), -100);
+        Due.tell(x, "abq");
+        Due.due("no letters are left of a faulty text", Due.tell(x, "a"), 1);
+        Due.due("just the letter", x.of(0, 0), 1);
     }
 
     private static void fault(int sides, String text, int place) {
