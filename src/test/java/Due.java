@@ -41,6 +41,17 @@ final class Due {
         for (int i = 0; i < letters.length(); i++) x.cast(letters.charAt(i) - 'a' + 1);
     }
 
+    /** The letters drawn by a seed: the ints of the document as longs without a sign. */
+    static String drawn(int sides, int seed, int n) {
+        StringBuilder text = new StringBuilder();
+        long z = seed & 0xFFFFFFFFL;
+        for (int i = 0; i < n; i++) {
+            z = z * 1103515245L + 12345L & 0xFFFFFFFFL;
+            text.append((char) ('a' + (z >> 16) % sides));
+        }
+        return text.toString();
+    }
+
     static String paper(WordRace x) {
         StringBuilder text = new StringBuilder();
         for (int i = 0; x.paper(i) >= 0; i++) text.append((char) x.paper(i));

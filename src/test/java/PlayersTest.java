@@ -160,23 +160,12 @@ public final class PlayersTest {
         Due.due("match(0, 1, -1)", x.match(0, 1, -1), Due.NO);
     }
 
-    /** The letters drawn by a seed, as the strip shows them. */
-    private static String drawn(int sides, int seed, int n) {
-        StringBuilder text = new StringBuilder();
-        long z = seed & 0xFFFFFFFFL;
-        for (int i = 0; i < n; i++) {
-            z = z * 1103515245L + 12345L & 0xFFFFFFFFL;
-            text.append((char) ('a' + (z >> 16) % sides));
-        }
-        return text.toString();
-    }
-
     private static void duel() {
         WordRace x = Due.with(3, "abc;cc;c5;b5");
         int neither = 0;
         int atTheLast = 0;
         for (int seed = -1500; seed < 1500; seed++) {
-            String row = drawn(3, seed, 60);
+            String row = Due.drawn(3, seed, 60);
             duelIs(x, 0, 1, seed, row, "abc", "cc");
             duelIs(x, 2, 3, seed, row, "ccccc", "bbbbb");
             if (!row.contains("ccccc") && !row.contains("bbbbb")) neither++;

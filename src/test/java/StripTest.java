@@ -43,32 +43,22 @@ public final class StripTest {
         Due.due("casts(41, 1)", x.casts(41, 1), -2);
         Due.due("casts(-1, 1)", x.casts(-1, 1), -2);
         Due.due("casts(12, 7)", x.casts(12, 7), 12);
-        Due.text("drawn by 7", letters(x), drawn(2, 7, 12));
+        Due.text("drawn by 7", letters(x), Due.drawn(2, 7, 12));
         Due.due("casts(3, -5)", x.casts(3, -5), 15);
-        Due.text("drawn by -5, too", letters(x), drawn(2, 7, 12) + drawn(2, -5, 3));
+        Due.text("drawn by -5, too", letters(x), Due.drawn(2, 7, 12) + Due.drawn(2, -5, 3));
         Due.due("casts(40, 9)", x.casts(40, 9), 40);
-        Due.text("till there are 40", letters(x), drawn(2, 7, 12) + drawn(2, -5, 3) + drawn(2, 9, 25));
+        Due.text("till there are 40", letters(x), Due.drawn(2, 7, 12) + Due.drawn(2, -5, 3) + Due.drawn(2, 9, 25));
         Due.due("casts(1, 1) on 40", x.casts(1, 1), 40);
         Due.due("casts(41, 1) on 40", x.casts(41, 1), -2);
         WordRace y = new WordRace();
         Due.due("casts(40, least)", y.casts(40, Integer.MIN_VALUE), 40);
-        Due.text("drawn by the least", letters(y), drawn(2, Integer.MIN_VALUE, 40));
-    }
-
-    private static String drawn(int sides, int seed, int n) {
-        StringBuilder text = new StringBuilder();
-        long z = seed & 0xFFFFFFFFL;
-        for (int i = 0; i < n; i++) {
-            z = z * 1103515245L + 12345L & 0xFFFFFFFFL;
-            text.append((char) ('a' + (z >> 16) % sides));
-        }
-        return text.toString();
+        Due.text("drawn by the least", letters(y), Due.drawn(2, Integer.MIN_VALUE, 40));
     }
 
     private static void castsOfThree() {
         WordRace x = Due.with(3, "");
         Due.due("casts(40, 123456789)", x.casts(40, 123456789), 40);
-        Due.text("drawn of three", letters(x), drawn(3, 123456789, 40));
+        Due.text("drawn of three", letters(x), Due.drawn(3, 123456789, 40));
     }
 
     private static void wipe() {
