@@ -34,6 +34,7 @@ public final class LanguageTest {
         String code = withoutComments(Files.readString(Path.of("src/main/java/WordRace.java")));
         words(code);
         methods(code);
+        made(code);
         Due.due("NONE", WordRace.NONE, -1);
         Due.due("BAD", WordRace.BAD, -2);
         Due.due("STATE", WordRace.STATE, -3);
@@ -108,6 +109,14 @@ public final class LanguageTest {
         Due.due("method references", code.contains("::") ? 1 : 0, 0);
         Due.due("static blocks", Pattern.compile("static\\s*\\{").matcher(code).find() ? 1 : 0, 0);
         Due.text("imports", String.join(" ", code.lines().filter(LanguageTest::isImport).toList()), "import java.util.Arrays;");
+    }
+
+    /** All that is made is made for fields: no call makes an object. */
+    private static void made(String code) {
+        for (String line : code.split("\n")) {
+            if (!line.matches(".*\\bnew\\b.*")) continue;
+            Due.due("made for a field:" + line, line.matches("\\s+(private )?final [A-Za-z\\[\\]]+ \\w+ = new .*;") ? 1 : 0, 1);
+        }
     }
 
     private static boolean isImport(String line) {

@@ -2,14 +2,16 @@ import java.util.Random;
 
 /** All promises: long runs of calls, drawn, whose answers are judged by the document's second writing. */
 public final class ModelTest {
-    private static final int RUNS = 400;
+    private static final int RUNS = 600;
     private static final int CALLS = 512;
+    private static final int MOST_OF_A_TURN = 40;
     private static final int[] ODD = {-2, -1, 40, 60, 64, 1000, Integer.MAX_VALUE, Integer.MIN_VALUE, Integer.MIN_VALUE + 3};
 
     private final Random random;
     private final WordRace race = new WordRace();
     private final Model model = new Model();
     private final int run;
+    private int calls;
 
     private ModelTest(int run) {
         this.run = run;
@@ -23,18 +25,23 @@ public final class ModelTest {
 
     private void play() {
         if (random.nextInt(2) == 0) due("sides", race.sides(3), model.sides(3), 3);
-        for (int i = 0; i < CALLS; i++) {
-            switch (random.nextInt(5)) {
-                case 0: change(); break;
-                case 1: askWords(); break;
-                case 2: askStrip(); break;
-                case 3: askPlayers(); break;
-                default: rest();
-            }
+        while (calls < CALLS - MOST_OF_A_TURN) turn();
+        // Each of these is one call, so the last one is the last that is promised.
+        while (calls < CALLS) askStrip();
+    }
+
+    private void turn() {
+        switch (random.nextInt(5)) {
+            case 0: change(); break;
+            case 1: askWords(); break;
+            case 2: askStrip(); break;
+            case 3: askPlayers(); break;
+            default: rest();
         }
     }
 
     private void due(String call, long got, long want, int... arguments) {
+        calls++;
         StringBuilder text = new StringBuilder("run " + run + ": " + call + "(");
         for (int i = 0; i < arguments.length; i++) text.append(i == 0 ? "" : ", ").append(arguments[i]);
         Due.due(text.append(')').toString(), got, want);
